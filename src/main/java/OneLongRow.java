@@ -27,8 +27,8 @@ public final class OneLongRow {
     private final Word trial = new Word();
     private final int[] formLetters = new int[WORD_LETTERS];
     private final Net net = new Net();
+    private final Points points = new Points();
     private final Counts counts = new Counts();
-    private final Shortest shortest = new Shortest();
     private boolean netIsOld = true;
     private int traced;
     private int latestFault;
@@ -169,11 +169,10 @@ public final class OneLongRow {
             return STATE;
         }
         renewNet();
-        shortest.seek(net);
         if (k < 0) {
-            return shortest.length;
+            return points.length;
         }
-        return k < shortest.length ? shortest.letters[k] : NONE;
+        return k < points.length ? points.letters[k] : NONE;
     }
 
     public long have(int n) {
@@ -181,7 +180,7 @@ public final class OneLongRow {
             return LOST;
         }
         renewNet();
-        counts.countTo(net, n);
+        counts.countTo(points, n);
         return counts.withAll[n];
     }
 
@@ -190,7 +189,7 @@ public final class OneLongRow {
             return LOST;
         }
         renewNet();
-        counts.countTo(net, n);
+        counts.countTo(points, n);
         return counts.withNone[n];
     }
 
@@ -285,7 +284,7 @@ public final class OneLongRow {
             return LOST;
         }
         renewNet();
-        counts.countTo(net, n);
+        counts.countTo(points, n);
         long upper = counts.withAll[n];
         long lower = 1;
         // The lower number is a power of 3, so 3 is all that the two can share.
@@ -449,7 +448,7 @@ public final class OneLongRow {
     }
 
     private static boolean isOfRow(int what) {
-        return isBelow(what, 4) || isBelow(what - PLACES_FROM, WORDS) && what >= PLACES_FROM;
+        return isBelow(what, 4) || what >= PLACES_FROM && what < PLACES_FROM + WORDS;
     }
 
     private boolean isWord(int w) {
@@ -483,8 +482,8 @@ public final class OneLongRow {
     private void renewNet() {
         if (netIsOld) {
             net.learn(known, knownMany);
-            counts.forget();
-            shortest.forget();
+            points.lay(net);
+            counts.begin(points);
             netIsOld = false;
         }
     }
@@ -738,8 +737,8 @@ public final class OneLongRow {
         int length;
         boolean stands;
 
-        void keep(int ofWord, int[] row, int n, boolean isStanding) {
-            word = ofWord;
+        void keep(int w, int[] row, int n, boolean isStanding) {
+            word = w;
             length = n;
             stands = isStanding;
             System.arraycopy(row, 0, letters, 0, n);
@@ -821,27 +820,59 @@ public final class OneLongRow {
 
     /**
      * Rows by their last letters: knot 0 is the empty row, and letter c behind knot k leads to knot 3 k + 1 + c.
-     * What is heard by a letter hangs on the three letters ahead of it alone, so knots of three letters at
-     * most are stayed in, and a knot of four gives up its first letter.
+     * Of a row that goes on only its longest end with which a form begins matters: such knots are stayed in,
+     * and others give up their first letters until they are one.
      */
     private static final class Net {
-        static final int STAYS = 40, KNOTS = 121, THREES = 13, THREES_MANY = 27;
+        static final int STAYS = 40, KNOTS = 121;
 
+        final int[] shorter = new int[KNOTS];
         final int[] heard = new int[KNOTS];
         final int[] after = new int[KNOTS];
+        final boolean[] isStay = new boolean[STAYS];
         final int[] trail = new int[WORD_LETTERS];
         int whole;
 
         Net() {
-            for (int knot = 0; knot < KNOTS; knot++) {
-                after[knot] = knot < STAYS ? knot : THREES + (knot - STAYS) % THREES_MANY;
+            for (int knot = 1 + LETTERS; knot < KNOTS; knot++) {
+                shorter[knot] = behind(shorter[(knot - 1) / LETTERS], (knot - 1) % LETTERS);
             }
+        }
+
+        static int behind(int knot, int letter) {
+            return LETTERS * knot + 1 + letter;
         }
 
         void learn(Word[] words, int wordMany) {
             whole = (1 << wordMany) - 1;
-            for (int knot = 1; knot < KNOTS; knot++) {
-                heard[knot] = heardBy(words, wordMany, trail, layTrail(knot));
+            markStays(words, wordMany);
+            for (int stay = 0; stay < STAYS; stay++) {
+                for (int letter = 0; letter < LETTERS && isStay[stay]; letter++) {
+                    int knot = behind(stay, letter);
+                    heard[knot] = heardBy(words, wordMany, trail, layTrail(knot));
+                    after[knot] = stayAt(knot);
+                }
+            }
+        }
+
+        private void markStays(Word[] words, int wordMany) {
+            for (int stay = 0; stay < STAYS; stay++) {
+                isStay[stay] = stay == 0;
+            }
+            for (int w = 0; w < wordMany; w++) {
+                for (int form = 0; form < FORMS; form++) {
+                    markBeginnings(words[w], form);
+                }
+            }
+        }
+
+        private void markBeginnings(Word word, int form) {
+            int knot = 0;
+            for (int place = 0; place + 1 < word.length; place++) {
+                knot = behind(knot, word.letterOf(form, place));
+                if (knot < STAYS) {
+                    isStay[knot] = true;
+                }
             }
         }
 
@@ -856,6 +887,14 @@ public final class OneLongRow {
                 at = (at - 1) / LETTERS;
             }
             return many;
+        }
+
+        private int stayAt(int knot) {
+            int at = knot;
+            for (int given = 0; given < WORD_LETTERS && !(at < STAYS && isStay[at]); given++) {
+                at = shorter[at];
+            }
+            return at;
         }
 
         int longestSilent() {
@@ -876,7 +915,8 @@ public final class OneLongRow {
                 if ((reached >> stay & 1) == 0) {
                     continue;
                 }
-                for (int knot = 3 * stay + 1; knot <= 3 * stay + 3; knot++) {
+                for (int letter = 0; letter < LETTERS; letter++) {
+                    int knot = behind(stay, letter);
                     if (heard[knot] == 0) {
                         next |= 1L << after[knot];
                     }
@@ -886,42 +926,107 @@ public final class OneLongRow {
         }
     }
 
+    /**
+     * Points that rows come to: a stay and the set of words heard so far, of which the whole set is one point,
+     * wherever the row stays. They are numbered as they are found: by shorter rows first, then by earlier ones,
+     * so the row by which a point was found is the first of the shortest that come to it.
+     */
+    private static final class Points {
+        static final int SETS = 1 << WORDS;
+        // Beginnings of at most 8 forms: none, 3 of a letter, 8 of two, 8 of three.
+        static final int MOST = 20 * SETS;
+
+        final int[] numbers = new int[Net.STAYS * SETS];
+        final int[] places = new int[MOST];
+        final int[] foundBy = new int[MOST];
+        final int[] next = new int[LETTERS * MOST];
+        final int[] letters = new int[ALL_MOST];
+        int many;
+        int wholePoint;
+        int length;
+
+        void lay(Net net) {
+            Arrays.fill(numbers, NONE);
+            many = 0;
+            find(0, 0);
+            for (int point = 0; point < many && point < MOST; point++) {
+                for (int letter = 0; letter < LETTERS; letter++) {
+                    next[LETTERS * point + letter] = pointAfter(net, point, letter);
+                }
+            }
+            wholePoint = Math.max(0, numbers[net.whole]);
+            layShortestRow();
+        }
+
+        private int pointAfter(Net net, int point, int letter) {
+            int knot = Net.behind(places[point] / SETS, letter);
+            int set = places[point] % SETS;
+            if (set == net.whole) {
+                return point;
+            }
+            set |= net.heard[knot];
+            int stay = set == net.whole ? 0 : net.after[knot];
+            return find(stay * SETS + set, LETTERS * point + letter);
+        }
+
+        private int find(int place, int step) {
+            if (numbers[place] == NONE && many < MOST) {
+                numbers[place] = many;
+                places[many] = place;
+                foundBy[many] = step;
+                many++;
+            }
+            return Math.max(0, numbers[place]);
+        }
+
+        boolean isSilent(int point) {
+            return places[point] % SETS == 0;
+        }
+
+        private void layShortestRow() {
+            length = 0;
+            for (int at = wholePoint; at > 0 && length < ALL_MOST; at = foundBy[at] / LETTERS) {
+                length++;
+            }
+            int at = wholePoint;
+            for (int place = length - 1; place >= 0; place--) {
+                letters[place] = foundBy[at] % LETTERS;
+                at = foundBy[at] / LETTERS;
+            }
+        }
+    }
+
     /** How many rows of each length have all words and none, counted on as far as was asked. */
     private static final class Counts {
-        static final int SETS = 1 << WORDS;
-
         final long[] withAll = new long[COUNTED_MOST + 1];
         final long[] withNone = new long[COUNTED_MOST + 1];
-        long[] rows = new long[Net.STAYS * SETS];
-        long[] longerRows = new long[Net.STAYS * SETS];
-        int counted = NONE;
+        long[] rows = new long[Points.MOST];
+        long[] longerRows = new long[Points.MOST];
+        int counted;
 
-        void forget() {
-            counted = NONE;
+        void begin(Points points) {
+            Arrays.fill(rows, 0);
+            rows[0] = 1;
+            counted = 0;
+            addUp(points);
         }
 
-        void countTo(Net net, int n) {
-            if (counted < 0) {
-                Arrays.fill(rows, 0);
-                rows[0] = 1;
-                counted = 0;
-                addUp(net.whole);
-            }
+        void countTo(Points points, int n) {
             while (counted < n && counted < COUNTED_MOST) {
-                addLetter(net);
+                addLetter(points);
                 counted++;
-                addUp(net.whole);
+                addUp(points);
             }
         }
 
-        private void addLetter(Net net) {
-            Arrays.fill(longerRows, 0);
-            for (int stay = 0; stay < Net.STAYS; stay++) {
-                for (int set = 0; set <= net.whole; set++) {
-                    long many = rows[stay * SETS + set];
-                    if (many != 0) {
-                        spread(net, stay, set, many);
-                    }
+        private void addLetter(Points points) {
+            for (int point = 0; point < points.many; point++) {
+                longerRows[point] = 0;
+            }
+            for (int point = 0; point < points.many; point++) {
+                long many = rows[point];
+                for (int letter = 0; letter < LETTERS && many > 0; letter++) {
+                    longerRows[points.next[LETTERS * point + letter]] += many;
                 }
             }
             long[] shorter = rows;
@@ -929,82 +1034,15 @@ public final class OneLongRow {
             longerRows = shorter;
         }
 
-        private void spread(Net net, int stay, int set, long many) {
-            for (int knot = 3 * stay + 1; knot <= 3 * stay + 3; knot++) {
-                longerRows[net.after[knot] * SETS + (set | net.heard[knot])] += many;
-            }
-        }
-
-        private void addUp(int whole) {
-            long all = 0;
+        private void addUp(Points points) {
             long none = 0;
-            for (int stay = 0; stay < Net.STAYS; stay++) {
-                all += rows[stay * SETS + whole];
-                none += rows[stay * SETS];
+            for (int point = 0; point < points.many; point++) {
+                if (points.isSilent(point)) {
+                    none += rows[point];
+                }
             }
-            withAll[counted] = all;
+            withAll[counted] = rows[points.wholePoint];
             withNone[counted] = none;
-        }
-    }
-
-    /**
-     * The first of the shortest rows with all words. Points (a stay and a set of heard words) are come to in the
-     * order of their rows, shorter ones first, so the first point with the whole set has the row that is sought.
-     */
-    private static final class Shortest {
-        static final int SETS = Counts.SETS, POINTS = Net.STAYS * SETS, UNSEEN = -1;
-
-        final int[] letters = new int[ALL_MOST];
-        final int[] cameFrom = new int[POINTS];
-        final int[] queue = new int[POINTS];
-        int queued;
-        int length = NONE;
-
-        void forget() {
-            length = NONE;
-        }
-
-        void seek(Net net) {
-            if (length >= 0) {
-                return;
-            }
-            Arrays.fill(cameFrom, UNSEEN);
-            cameFrom[0] = 0;
-            queue[0] = 0;
-            queued = 1;
-            for (int k = 0; k < queued && k < POINTS; k++) {
-                if (queue[k] % SETS == net.whole) {
-                    layRow(queue[k]);
-                    return;
-                }
-                goOn(net, queue[k]);
-            }
-        }
-
-        private void goOn(Net net, int point) {
-            int stay = point / SETS;
-            int set = point % SETS;
-            for (int knot = 3 * stay + 1; knot <= 3 * stay + 3; knot++) {
-                int next = net.after[knot] * SETS + (set | net.heard[knot]);
-                if (cameFrom[next] == UNSEEN && queued < POINTS) {
-                    cameFrom[next] = point;
-                    queue[queued] = next;
-                    queued++;
-                }
-            }
-        }
-
-        private void layRow(int last) {
-            int many = 0;
-            for (int point = last; point != 0 && many < ALL_MOST; point = cameFrom[point]) {
-                many++;
-            }
-            int point = last;
-            for (int place = many - 1; place >= 0; place--) {
-                letters[place] = (point / SETS - 1) % LETTERS;
-                point = cameFrom[point];
-            }
-            length = many;
         }
     }
 }
