@@ -28,6 +28,13 @@ public final class FaceTest {
             System.exit(1);
         }
         Due d = new Due("constants");
+        withinTheRules(d, OneLongRow.class);
+        for (Class<?> inside : OneLongRow.class.getDeclaredClasses()) {
+            d.due(inside + " is static", Modifier.isStatic(inside.getModifiers()) ? 1 : 0, 1);
+            d.due(inside + " is not public", Modifier.isPublic(inside.getModifiers()) ? 1 : 0, 0);
+            withinTheRules(d, inside);
+        }
+        d.due("the class is public and final", OneLongRow.class.getModifiers() & (Modifier.PUBLIC | Modifier.FINAL), Modifier.PUBLIC | Modifier.FINAL);
         d.due("UNKNOWN", OneLongRow.UNKNOWN, -1);
         d.due("OUTSIDE", OneLongRow.OUTSIDE, -2);
         d.due("STATE", OneLongRow.STATE, -3);
@@ -35,6 +42,21 @@ public final class FaceTest {
         d.due("NONE", OneLongRow.NONE, -9);
         d.due("LOST", OneLongRow.LOST, Long.MIN_VALUE);
         Due.end();
+    }
+
+    /** LANGUAGE.md, rules 1 and 11: names of the face, parameters, fields. */
+    private static void withinTheRules(Due d, Class<?> one) {
+        int fields = 0;
+        for (Field f : one.getDeclaredFields()) if (!Modifier.isStatic(f.getModifiers())) fields++;
+        d.due(one + " has few fields", fields <= 20 ? 1 : 0, 1);
+        for (Method m : one.getDeclaredMethods()) {
+            d.due(m + " has few parameters", m.getParameterCount() <= 7 ? 1 : 0, 1);
+            boolean isOfFace = one == OneLongRow.class && Modifier.isPublic(m.getModifiers());
+            for (String due : DUE) {
+                boolean bearsName = due.startsWith(m.getName() + "(");
+                d.due(m + " bears no name of the face", bearsName && !isOfFace ? 1 : 0, 0);
+            }
+        }
     }
 
     private static List<String> members() {
