@@ -18,6 +18,9 @@ public final class FaceTest {
         "FULL int", "LOST long", "NONE int", "OUTSIDE int", "STATE int", "UNKNOWN int", "new()"
     };
 
+    private static final List<Class<?>> CONSTANTS = List.of(int.class, long.class, boolean.class, char.class, String.class);
+    private static final int MOST_CLASSES = 12;
+
     public static void main(String[] args) {
         List<String> due = new ArrayList<>(List.of(DUE));
         List<String> got = members();
@@ -34,6 +37,7 @@ public final class FaceTest {
             d.due(inside + " is not public", Modifier.isPublic(inside.getModifiers()) ? 1 : 0, 0);
             withinTheRules(d, inside);
         }
+        d.due("few classes", OneLongRow.class.getDeclaredClasses().length < MOST_CLASSES ? 1 : 0, 1);
         d.due("the class is public and final", OneLongRow.class.getModifiers() & (Modifier.PUBLIC | Modifier.FINAL), Modifier.PUBLIC | Modifier.FINAL);
         d.due("UNKNOWN", OneLongRow.UNKNOWN, -1);
         d.due("OUTSIDE", OneLongRow.OUTSIDE, -2);
@@ -44,10 +48,13 @@ public final class FaceTest {
         Due.end();
     }
 
-    /** LANGUAGE.md, rules 1 and 11: names of the face, parameters, fields. */
+    /** LANGUAGE.md, rules 1, 5 and 11: names of the face, parameters, fields. */
     private static void withinTheRules(Due d, Class<?> one) {
         int fields = 0;
-        for (Field f : one.getDeclaredFields()) if (!Modifier.isStatic(f.getModifiers())) fields++;
+        for (Field f : one.getDeclaredFields()) {
+            if (!Modifier.isStatic(f.getModifiers())) fields++;
+            else d.due(f + " is a constant", Modifier.isFinal(f.getModifiers()) && CONSTANTS.contains(f.getType()) ? 1 : 0, 1);
+        }
         d.due(one + " has few fields", fields <= 20 ? 1 : 0, 1);
         for (Method m : one.getDeclaredMethods()) {
             d.due(m + " has few parameters", m.getParameterCount() <= 7 ? 1 : 0, 1);
